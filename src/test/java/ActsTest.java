@@ -148,6 +148,10 @@ public final class ActsTest {
         Check.due("buy(0)", x.buy(0), NONE);
         Check.due("buy(21)", x.buy(21), NONE);
         Check.due("buy(-5)", x.buy(-5), NONE);
+        Check.due("give(1)", x.give(1), 31);
+        Check.due("buy(1)", x.buy(1), 100);
+        x.undo();
+        x.undo();
         Check.due("buy(20)", x.buy(20), 119);
         Check.due("too few coins", x.buy(11), NONE);
         Check.due("just coins", x.buy(10), 129);

@@ -25,7 +25,8 @@ public final class FaceTest {
                 names.add(method.getName());
             }
         }
-        Check.due("the methods are the document's", faces.equals(new TreeSet<>(Arrays.asList(METHODS.split(" ")))), true);
+        TreeSet<String> promised = new TreeSet<>(Arrays.asList(METHODS.split(" ")));
+        Check.due("the methods are the document's", faces.equals(promised), true);
         Check.due("final", Modifier.isFinal(FenceYards.class.getModifiers()), true);
         Check.due("constructors", FenceYards.class.getConstructors().length, 1);
         Check.due("NONE", FenceYards.NONE, -1);

@@ -6,7 +6,8 @@ import java.util.Random;
  */
 public final class FaultsTest {
     private static final String[] SIGNS = {"sfw;;lcygavk0149 x", "y:;k1g[](!&|=<>+*? ", "fpin;;012 "};
-    private static final String[] WORDS = {"f;|fy3|w;|wa1v0|k2|g9| |sl40|c2|;f|s;", "y:|y:k|>1|?2|;|[k|]|(|)|!|&|+1|n|l=2",
+    private static final String[] WORDS = {"f;|fy3|w;|wa1v0|k2|g9| |sl40|c2|;f|s;",
+        "y:|y:k|>1|?2|;|[k|]|(|)|!|&|+1|n|l=2",
         "f1|;|n|n;|p12|p3 4|i0;| "};
 
     public static void main(String[] args) {
@@ -48,7 +49,8 @@ public final class FaultsTest {
             }
         }
         if (sort == 2) {
-            boolean spring = text.matches(" *(f *\\d|i *\\d|n|p *\\d *\\d) *(; *(f *\\d|i *\\d|n|p *\\d *\\d) *){0,15}");
+            String step = " *(f *\\d|i *\\d|n|p *\\d *\\d) *";
+            boolean spring = text.matches(step + "(;" + step + "){0,15}");
             Check.due("spring \"" + text + "\"", fault == Check.NONE, spring);
         }
     }

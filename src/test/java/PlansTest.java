@@ -41,6 +41,9 @@ public final class PlansTest {
         dueLeast(x, 0, 0b10000, 1);
         FenceYards y = Check.village("sl99;fy9g0;f;wa1v0k2;wa1v0k1;wa1v0k3;wa1v0k2");
         dueLeast(y, 0, 0b101, 2);
+        FenceYards crossed = Check.village("sl99;fy10g0;f;wa1v0k1;wa1v0k2;wa1v0k2;wa1v0k3");
+        dueLeast(crossed, 0, 0b110, 2);
+        dueRichest(crossed, 2, 0b110, 10);
         FenceYards z = Check.village("sl99;fy10g0;f;wa1v0k2;wa1v0k1;wa1v0k3;wa1v0k2");
         dueLeast(z, 0, 0b101, 2);
         z.sin(1, 0, 9);
@@ -114,7 +117,8 @@ public final class PlansTest {
         Check.due("every without a village", x.every(0), NONE);
         Check.due("richest without a village", x.richest(1, 0), NONE);
         Check.due("pairs without a village", x.pairs(1), NONE);
-        Check.tell(x, 0, "fy1;fy2;w");
+        Check.tell(x, 0, "fy1;fy2;w;wa1v0");
+        Check.due("every(0)", x.every(0), 3);
         Check.due("least(2, 0)", x.least(2, 0), NONE);
         Check.due("least(-1, 0)", x.least(-1, 0), NONE);
         Check.due("least(1, 2)", x.least(1, 2), NONE);

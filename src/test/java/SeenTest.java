@@ -88,6 +88,11 @@ public final class SeenTest {
         Check.due("of one", x.ask(1), 0);
         x.seen(1, 12, false);
         Check.due("nothing fits", x.ask(1), NONE);
+        FenceYards heavy = Check.village("sl99;fy40g0;f;wa1v0");
+        heavy.seen(0, 17, true);
+        Check.due("of the two heaviest", heavy.ask(0), 18);
+        Check.rule(heavy, "y:k>4?40;y:39");
+        Check.due("the highest mark", heavy.ask(0), 40);
         Check.due("of nine, five alike", x.ask(0), 10);
         Check.rule(x, "y:5");
         Check.due("all alike", x.ask(0), 0);

@@ -6,7 +6,7 @@ public final class StormTest {
     private static final String[] TEXTS = {"sl60c30;fy9;fy4g8;fy20;w;wa2v1k9;wa1v0k2", "f;f;f;f;f;f;wa5v3;wa3v5",
         "f", "fy40;fy40g0;w;w;w;w;w;w;w;w;w", "f;f;wx", "y:k*k+n", "y:(b>l|d=3)&!g<2?k;y:9", "y:9999*9999*l/d", "y:k?",
         "f0;n;p05;i0;n;f1", "n;n;n;n;n;n;n;n;n;n;n;n;n;n;n;n", "p99;f9", "p1"};
-    private static final int[] EXTREMES = {Integer.MIN_VALUE, Integer.MAX_VALUE, -1000000, -2, -1, 999, 1000, 41, 240, 241};
+    private static final int[] EXTREMES = {Integer.MIN_VALUE, Integer.MAX_VALUE, -1000000, -2, -1, 999, 1000, 41, 240};
 
     private final Random random;
     private final FenceYards x = new FenceYards();
@@ -43,8 +43,11 @@ public final class StormTest {
         if (which < 4) {
             if (random.nextInt(3) > 0) {
                 Check.tape(x, TEXTS[random.nextInt(TEXTS.length)]);
-                before = before == null ? null : Observed.of(x);
+            } else {
+                x.feed(random.nextInt(), any(127), any(127), random.nextInt(), 0);
+                x.end(any(240));
             }
+            before = before == null ? null : Observed.of(x);
             answer = x.text(any(2));
         } else if (which < 18) {
             answer = act(which);

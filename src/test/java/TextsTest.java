@@ -69,6 +69,11 @@ public final class TextsTest {
         Check.dueFault(0, "   ", 3);
         Check.dueFault(0, "f", NONE);
         Check.dueFault(0, "F", 0);
+        Check.dueFault(0, "s", 1);
+        Check.dueFault(0, "s ;w", 4);
+        Check.dueFault(0, "f;sl", 4);
+        Check.dueFault(0, "f;fy", 4);
+        Check.dueFault(0, "f;f;w;wk ", 9);
         Check.dueFault(0, "s;f;w", 5);
         Check.dueFault(0, "w;f;f;s", NONE);
         Check.dueFault(0, "wa1v0;f;f", NONE);
@@ -105,6 +110,13 @@ public final class TextsTest {
         Check.dueFault(0, "fy991", 4);
         Check.dueFault(0, "fy99", 3);
         Check.dueFault(0, "fy123", 4);
+        Check.dueFault(0, "fy1234", 4);
+        Check.dueFault(0, "fy005", 4);
+        Check.dueFault(0, "fy41", 3);
+        Check.dueFault(0, "fy40", NONE);
+        Check.dueFault(0, "sl100;f", 4);
+        Check.dueFault(0, "fg10", 3);
+        Check.dueFault(0, "wa6;f", 2);
         Check.dueFault(0, "fg09", NONE);
         Check.dueFault(0, "fg100", 4);
         Check.dueFault(0, "wk10;f;f", 3);
@@ -264,6 +276,10 @@ public final class TextsTest {
         Check.due("to whom 1", x.wrong(1, 1), 1);
         Check.due("how heavy 1", x.wrong(1, 2), 3);
         Check.due("no third", x.wrong(2, 0), NONE);
+        Check.tell(x, 0, "f;f;w;w;w;w");
+        Check.tell(x, 0, "f;f;w;w;w;w");
+        Check.tell(x, 0, "f;f;w");
+        Check.due("no wrong of a village ahead", x.all(9), 1);
     }
 
     private static void choosingLaws() {

@@ -227,6 +227,11 @@ public final class TiesTest {
         x.forgive(2);
         Check.due("TRUE in all", x.all(11), 8);
         Check.due("FALSE in all", x.all(12), 5);
+        FenceYards few = Check.village("sl5;fy4;fy3;wa1v0k1");
+        few.paint(0, 1);
+        Check.due("FALSE of one yard", few.all(8), 1);
+        Check.due("NEEDED of both", few.all(10), 2);
+        Check.due("HEAVIEST of weight 1", few.all(6), 0);
         Check.due("all(13)", x.all(13), NONE);
         Check.due("all(-1)", x.all(-1), NONE);
         Check.due("all without a village", new FenceYards().all(9), NONE);

@@ -1,9 +1,11 @@
+import java.util.Arrays;
 import java.util.Random;
 
 /** Plans, games, odds, rings and the like on random villages, against trying all by acts on objects of their own. */
 public final class TrialTest {
     private static final int NONE = Check.NONE;
-    private static final String[] LAWS = {"y:k*2", "y:n*3+k", "y:b/2+1", "y:l/4", "y:n>1?9;y:b>5&k<6?b-3;y:k+g", "y:d+n*n"};
+    private static final String[] LAWS = {"y:k*2", "y:n*3+k", "y:b/2+1", "y:l/4", "y:n>1?9;y:b>5&k<6?b-3;y:k+g",
+        "y:d+n*n"};
 
     private final long seed;
     private final FenceYards x;
@@ -33,7 +35,8 @@ public final class TrialTest {
         int count = 2 + random.nextInt(5);
         StringBuilder text = new StringBuilder("sl").append(random.nextInt(100));
         for (int i = 0; i < count; i++) {
-            text.append(";fy").append(1 + random.nextInt(random.nextBoolean() ? 8 : 40)).append('g').append(random.nextInt(10));
+            int most = random.nextBoolean() ? 8 : 40;
+            text.append(";fy").append(1 + random.nextInt(most)).append('g').append(random.nextInt(10));
         }
         FenceYards y = Check.village(text.toString());
         if (random.nextInt(3) > 0) {
@@ -78,8 +81,8 @@ public final class TrialTest {
     private void subsets() {
         int[] least = new int[farms + 1];
         int[] leastSize = new int[farms + 1];
-        java.util.Arrays.fill(least, NONE);
-        java.util.Arrays.fill(leastSize, NONE);
+        Arrays.fill(least, NONE);
+        Arrays.fill(leastSize, NONE);
         int[] rich = new int[10];
         int[] richYards = new int[10];
         long[] odds = new long[farms];
@@ -223,7 +226,7 @@ public final class TrialTest {
     private void ties() {
         int[][] ways = new int[farms][farms];
         for (int[] row : ways) {
-            java.util.Arrays.fill(row, 99);
+            Arrays.fill(row, 99);
         }
         for (int place = 0; place < 9; place++) {
             if (x.wrong(place, 0) != NONE) {
@@ -251,7 +254,7 @@ public final class TrialTest {
     private void fading() {
         FenceYards y = made();
         int[] wants = new int[farms];
-        java.util.Arrays.fill(wants, NONE);
+        Arrays.fill(wants, NONE);
         for (int days = 0; days <= 120; days++) {
             for (int farm = 0; farm < farms; farm++) {
                 if (wants[farm] == NONE && y.farm(farm, 2) + y.farm(farm, 3) == 0) {
