@@ -13,6 +13,7 @@ public final class TextsTest {
         faultsOfSprings();
         telling();
         newVillage();
+        defaults();
         choosingLaws();
         Check.finish();
     }
@@ -280,6 +281,25 @@ public final class TextsTest {
         Check.tell(x, 0, "f;f;w;w;w;w");
         Check.tell(x, 0, "f;f;w");
         Check.due("no wrong of a village ahead", x.all(9), 1);
+    }
+
+    /** What a clause does not tell is not what the one ahead of it told. */
+    private static void defaults() {
+        FenceYards x = Check.village("fy7g1;sc5;fg2;fy8;wa2v1k9;wv2;wk1");
+        Check.due("LIME without", x.count(7), 40);
+        Check.due("COINS told", x.count(8), 5);
+        int[][] farms = {{7, 1}, {10, 2}, {8, 3}};
+        int[][] wrongs = {{2, 1, 9}, {0, 2, 3}, {0, 1, 1}};
+        for (int i = 0; i < 3; i++) {
+            Check.due("YARDS of " + i, x.farm(i, 0), farms[i][0]);
+            Check.due("GRUDGING of " + i, x.farm(i, 1), farms[i][1]);
+            for (int what = 0; what < 3; what++) {
+                Check.due("wrong(" + i + ", " + what + ")", x.wrong(i, what), wrongs[i][what]);
+            }
+        }
+        FenceYards y = Check.village("fy7g1;sl6");
+        Check.due("LIME told", y.count(7), 6);
+        Check.due("COINS without", y.count(8), 20);
     }
 
     private static void choosingLaws() {
