@@ -47,6 +47,8 @@ public final class TiesTest {
         Check.due("chain(0, 6)", x.chain(0, 6), NONE);
         Check.due("chain(-1, -1)", x.chain(-1, -1), NONE);
         Check.due("chain(6, 6)", x.chain(6, 6), NONE);
+        Check.due("chain(0, 32)", x.chain(0, 32), NONE);
+        Check.due("chain(32, 0)", x.chain(32, 0), NONE);
     }
 
     private static void scores() {
