@@ -36,7 +36,28 @@ final class Observed {
         }
         for (int told = 0; told < x.count(1); told++) {
             answers.add(x.weights(told, FenceYards.NONE));
+            answers.add(x.ask(told));
         }
+        return row(answers);
+    }
+
+    /** What the tape and the springs say. */
+    static int[] texts(FenceYards x) {
+        List<Integer> answers = new ArrayList<>();
+        for (int sort = 0; sort < 3; sort++) {
+            answers.add(x.fault(sort));
+        }
+        for (int spring = 0; spring < x.count(3); spring++) {
+            for (int i = 0; i < 16; i++) {
+                for (int what = 0; what < 3; what++) {
+                    answers.add(x.step(spring, i, what));
+                }
+            }
+        }
+        return row(answers);
+    }
+
+    private static int[] row(List<Integer> answers) {
         int[] row = new int[answers.size()];
         for (int i = 0; i < row.length; i++) {
             row[i] = answers.get(i);
