@@ -32,6 +32,7 @@ public final class DayBoundsTest {
         undoOne();
         undoForty();
         undoBackAndForth();
+        undoOfTheLastFarm();
         logEmpty();
         logLatest60();
         logRefused();
@@ -422,6 +423,27 @@ public final class DayBoundsTest {
         }
         Check.due("COINS undone", x.count(8), 20 + 10);
         Check.due("undone no more", x.undo(), NONE);
+    }
+
+    /** All that is told of the sixth farm and of the ninth place comes again. */
+    private static void undoOfTheLastFarm() {
+        FenceYards x = Check.village("sl99;f;f;f;f;f;fy40;w;w;w;w;w;w;w;wv5;wa5v4k9");
+        int[] before = Observed.of(x);
+        x.paint(5, 9);
+        x.forgive(7);
+        x.forgive(8);
+        x.sin(5, 0, 2);
+        x.sin(4, 5, 6);
+        int[] then = Observed.of(x);
+        x.day();
+        x.inspect(5);
+        x.undo();
+        x.undo();
+        Observed.dueAlike("two undone", Observed.of(x), then);
+        for (int i = 0; i < 5; i++) {
+            x.undo();
+        }
+        Observed.dueAlike("all undone", Observed.of(x), before);
     }
 
     private static void logEmpty() {

@@ -14,11 +14,13 @@ public final class ImageBoundsTest {
         backOfAnotherVillage();
         backBehindARefusedVillage();
         backOfAllThatIsKept();
+        backOfTheLastFarm();
         backTwice();
         backUndoesNoMore();
         backToALaterDay();
         backWithALogOfNone();
         backWithAFullLog();
+        backWithAllOfALog();
         backThenDaysUndone();
         imageThenUndone();
         whatAnImageDoesNotKeep();
@@ -124,6 +126,28 @@ public final class ImageBoundsTest {
         Observed.dueAlikeButActs("as it was", Observed.of(x), then);
     }
 
+    private static void backOfTheLastFarm() {
+        FenceYards x = Check.village("sl99;f;f;f;f;f;fy8;w;w;w;w;w;w;w;wv5;wa5v4k9");
+        x.forgive(7);
+        x.forgive(8);
+        x.day();
+        x.paint(5, 1);
+        x.paint(3, 5);
+        x.sin(5, 0, 7);
+        x.sin(4, 5, 8);
+        x.image();
+        int[] then = Observed.of(x);
+        Check.due("WHITE in the LOG", x.log(0, 0), 0b010000);
+        x.forgive(7);
+        x.forgive(8);
+        x.day();
+        x.day();
+        x.paint(5, 1);
+        x.day();
+        x.back();
+        Observed.dueAlikeButActs("as it was", Observed.of(x), then);
+    }
+
     private static void backTwice() {
         FenceYards x = imaged();
         Check.due("back at once", x.back(), 2);
@@ -189,6 +213,22 @@ public final class ImageBoundsTest {
             x.back();
             dueLog(x, day);
         }
+    }
+
+    /** WHITE and what came through, too, when many days have been logged since. */
+    private static void backWithAllOfALog() {
+        FenceYards x = Check.village("sl99;fy1;f;wa1v0");
+        x.apples(0);
+        x.forgive(0);
+        x.paint(1, 9);
+        x.day();
+        x.day();
+        x.image();
+        Days.goOn(x, 240);
+        x.back();
+        Check.dueRow("LOG", new int[] {x.log(1, 0), x.log(1, 1), x.log(1, 2), x.log(0, 0), x.log(0, 1), x.log(0, 2)},
+            1, 5, 89, 1, 2, 89);
+        Check.due("two days", x.count(13), 2);
     }
 
     private static void backThenDaysUndone() {

@@ -20,6 +20,7 @@ public final class LawBoundsTest {
         firstThatHolds();
         noneThatHolds();
         comparisonsAtTheEdge();
+        comparisonsTogether();
         heldWithinForty();
         noMoreThanBare();
         noMoreThanLime();
@@ -285,6 +286,22 @@ public final class LawBoundsTest {
         dueWorth("y:0>0-1?1;y:2", 1);
     }
 
+    private static void comparisonsTogether() {
+        String[] held = {"k=4", "k<5", "k>3", "!k=5", "(k=4)"};
+        String[] not = {"k=5", "k<4", "k>4", "!k=4", "(k=5)"};
+        for (int i = 0; i < held.length; i++) {
+            for (int j = 0; j < held.length; j++) {
+                dueWorth("y:" + held[i] + "&" + held[j] + "?1;y:2", 1);
+                dueWorth("y:" + held[i] + "&" + not[j] + "?1;y:2", 2);
+                dueWorth("y:" + not[i] + "&" + held[j] + "?1;y:2", 2);
+                dueWorth("y:" + held[i] + "|" + not[j] + "?1;y:2", 1);
+                dueWorth("y:" + not[i] + "|" + held[j] + "?1;y:2", 1);
+                dueWorth("y:" + not[i] + "|" + not[j] + "?1;y:2", 2);
+                dueWorth("y:!(" + held[i] + "|" + held[j] + ")?1;y:2", 2);
+            }
+        }
+    }
+
     private static void heldWithinForty() {
         dueWorth("y:0-1", 0);
         dueWorth("y:0-9999*9999", 0);
@@ -339,6 +356,16 @@ public final class LawBoundsTest {
         dueYards("sl99;f;fy40;w", "y:l-98", 1);
         dueYards("sl99;f;fy40;w", "y:n+d", 0);
         dueYards("sl99;f;fy40;w", "y:n+d+1", 1);
+        FenceYards late = Days.at("f;fy40", 999);
+        Check.rule(late, "y:d-989");
+        late.sin(0, 1, 1);
+        Check.due("d on the last day", late.wrong(0, 3), 10);
+        Check.rule(late, "y:l-994");
+        Check.due("l of the most lime", late.wrong(0, 3), 5);
+        Check.rule(late, "y:n*7");
+        Check.due("n of none", late.forgive(0), 0);
+        late.sin(0, 1, 1);
+        Check.due("n of one", late.wrong(0, 3), 7);
     }
 
     /** A law of 240 bytes, its last clause the one that holds; and one sum of 239. */

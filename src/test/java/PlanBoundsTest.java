@@ -36,6 +36,7 @@ public final class PlanBoundsTest {
         pairsOnePainter();
         pairsLeastRow();
         pairsAsNow();
+        plansOneBehindTheOther();
         plansChangeNothing();
         Check.finish();
     }
@@ -142,6 +143,10 @@ public final class PlanBoundsTest {
         refused("every(2)", x -> x.every(2));
         refused("every of the lowest", x -> x.every(LOWEST));
         refused("every of the highest", x -> x.every(HIGHEST));
+        FenceYards x = Check.village("fy1;fy1;w;wa1v0");
+        dueEvery(x, 3, 2);
+        Check.due("every(-1) where there is an answer", x.every(-1), NONE);
+        Check.due("every(2) where there is an answer", x.every(2), NONE);
     }
 
     private static void everyWhiteAlready() {
@@ -303,6 +308,26 @@ public final class PlanBoundsTest {
         duePairs(x, 991, 1);
         x.sin(0, 2, 1);
         duePairs(x, 990, 6);
+    }
+
+    /** An answer is none of the one ahead of it. */
+    private static void plansOneBehindTheOther() {
+        FenceYards x = ruled("sl9;fy2;fy3;f;wa1v0k2;wk3;wk1", "y:k");
+        dueLeast(x, 0, 1, 1);
+        dueLeast(x, 2, NONE, NONE);
+        dueLeast(x, 1, 0b10, 1);
+        dueEvery(x, NONE, NONE);
+        dueRichest(x, 9, 0b11, 5);
+        dueRichest(x, 1, 0b10, 3);
+        dueRichest(x, 0, 0, 0);
+        duePairs(x, 19, 5);
+        x.forgive(0);
+        x.forgive(1);
+        duePairs(x, 929, 0);
+        dueRichest(x, 9, 0, 0);
+        x.paint(2, 4);
+        dueEvery(x, NONE, NONE);
+        dueLeast(x, 0, 0, 0);
     }
 
     private static void plansChangeNothing() {

@@ -16,6 +16,7 @@ public final class TapeBoundsTest {
         feedLowestAndHighestByte();
         feedUpTo240();
         feedBeyond240();
+        feedEachByteCounts();
         feedZerosToAFullTape();
         endOfAnEmptyTape();
         endOfAFullTape();
@@ -189,6 +190,25 @@ public final class TapeBoundsTest {
         FenceYards x = fullTape();
         x.end(239);
         return x;
+    }
+
+    /** Any of the twenty, alone and however small, is one too many. */
+    private static void feedEachByteCounts() {
+        FenceYards x = fullTape();
+        for (int shift = 0; shift < 32; shift += 8) {
+            for (int sign : new int[] {1, 128, 255}) {
+                int number = sign << shift;
+                Check.due("in the first number", x.feed(number, 0, 0, 0, 0), NONE);
+                Check.due("in the second", x.feed(0, number, 0, 0, 0), NONE);
+                Check.due("in the third", x.feed(0, 0, number, 0, 0), NONE);
+                Check.due("in the fourth", x.feed(0, 0, 0, number, 0), NONE);
+                Check.due("in the fifth", x.feed(0, 0, 0, 0, number), NONE);
+            }
+        }
+        Check.due("240 bytes still", x.count(4), 240);
+        x.end(221);
+        Check.due("twenty to 221", x.feed(-1, -1, -1, -1, -1), NONE);
+        Check.due("nineteen to 221", x.feed(0x20202020, 0x20202020, 0x20002020, 0x20202020, 0x20202020), 240);
     }
 
     private static void feedZerosToAFullTape() {

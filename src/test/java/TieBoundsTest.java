@@ -79,6 +79,9 @@ public final class TieBoundsTest {
         Check.due("three", Check.village("f;f;f;w;wa1v2;wa2v0").ring(), 3);
         Check.due("six", Check.village(SIX + ";w;wa1v2;wa2v3;wa3v4;wa4v5;wa5v0").ring(), 6);
         Check.due("two beside six", Check.village(SIX + ";w;wa1v2;wa2v3;wa3v4;wa4v5;wa5v0;wa5v4").ring(), 2);
+        Check.due("two behind three", Check.village(SIX + ";w;wa1v2;wa2v0;wa3v4;wa4v3").ring(), 2);
+        Check.due("two ahead of three", Check.village(SIX + ";w;wa1v0;wa2v3;wa3v4;wa4v2").ring(), 2);
+        Check.due("three behind two one way", Check.village(SIX + ";w;wa1v2;wa3v4;wa4v5;wa5v3").ring(), 3);
         FenceYards x = Check.village("f;f;w;wa1v0");
         x.forgive(1);
         Check.due("forgiven", x.ring(), NONE);
