@@ -116,8 +116,8 @@ public final class SpringBoundsTest {
     private static void blanks() {
         FenceYards x = new FenceYards();
         Check.due("told", Check.tell(x, 2, "  f  7  ;  p  1  2  ;  i  3  ;  n  "), 0);
-        Check.dueRow("as without blanks", new int[] {x.step(0, 0, 1), x.step(0, 1, 1), x.step(0, 1, 2), x.step(0, 2, 1)},
-            7, 1, 2, 3);
+        Check.dueRow("as without blanks",
+            new int[] {x.step(0, 0, 1), x.step(0, 1, 1), x.step(0, 1, 2), x.step(0, 2, 1)}, 7, 1, 2, 3);
         dueFault("f 1 2", 4);
         dueFault("p 1 2 3", 6);
         dueFault("n" + (char) 9, 1);
@@ -181,7 +181,8 @@ public final class SpringBoundsTest {
 
     private static void stepWithoutADigit() {
         FenceYards x = spring("n;f0;i0;p00");
-        Check.dueRow("digits", new int[] {x.step(0, 0, 1), x.step(0, 1, 1), x.step(0, 2, 1), x.step(0, 3, 1)}, NONE, 0, 0, 0);
+        Check.dueRow("digits", new int[] {x.step(0, 0, 1), x.step(0, 1, 1), x.step(0, 2, 1), x.step(0, 3, 1)},
+            NONE, 0, 0, 0);
         Check.dueRow("second digits", new int[] {x.step(0, 0, 2), x.step(0, 1, 2), x.step(0, 2, 2), x.step(0, 3, 2)},
             NONE, NONE, NONE, 0);
     }

@@ -384,7 +384,8 @@ public final class VillageBoundsTest {
             Check.due("its yards", x.farm(farm, 4), 40);
         }
         for (int place = 0; place < 9; place++) {
-            Check.dueRow("its wrong " + place, new int[] {x.wrong(place, 0), x.wrong(place, 1), x.wrong(place, 2)}, 5, 4, 9);
+            Check.dueRow("its wrong " + place, new int[] {x.wrong(place, 0), x.wrong(place, 1), x.wrong(place, 2)},
+                5, 4, 9);
         }
     }
 }
