@@ -832,7 +832,7 @@ public final class FenceYards {
                 case '|': value = a | b; break;
                 default: value = 0; break;
             }
-            return (int) Math.max(Math.min(value, BOUND), -BOUND);
+            return (int) (value > BOUND ? BOUND : value < -BOUND ? -BOUND : value);
         }
     }
 

@@ -64,8 +64,8 @@ public final class LawBoundsTest {
 
     private static void endsTooEarly() {
         String[] texts = {"y", "y:", "y:k+", "y:k*", "y:[", "y:[k", "y:[k+", "y:k=", "y:k=1", "y:k=1&", "y:k=1|",
-            "y:k=1?", "y:k=1?2;", "y:!", "y:!k", "y:!k=", "y:!k=1", "y:(", "y:(k", "y:(k=", "y:(k=1", "y:(k=1)", "y:(k=1)?",
-            "y:k=[1", "y: ", "y:k=1 "};
+            "y:k=1?", "y:k=1?2;", "y:!", "y:!k", "y:!k=", "y:!k=1", "y:(", "y:(k", "y:(k=", "y:(k=1", "y:(k=1)",
+            "y:(k=1)?", "y:k=[1", "y: ", "y:k=1 "};
         for (String text : texts) {
             dueFault(text, text.length());
         }

@@ -7,7 +7,8 @@ import java.util.function.ToLongFunction;
  */
 public final class RefusedTest {
     private static final String[] VILLAGES = {"sl60c30;fy9;fy4g8;fy20;w;wa2v1k9;wa1v0k2", "f",
-        "f;f;f;f;f;f;wa5v3;wa3v5", "sl9c9;fy3;fy40g0;w;w;w;w;w;w;w;w;w", "sl99c99;fy1;fy2;fy1;fy1", "f;f;wv0", "fy41", "f;f;f;f;f;f;f"};
+        "f;f;f;f;f;f;wa5v3;wa3v5", "sl9c9;fy3;fy40g0;w;w;w;w;w;w;w;w;w", "sl99c99;fy1;fy2;fy1;fy1", "f;f;wv0", "fy41",
+        "f;f;f;f;f;f;f"};
     private static final String[] LAWS = {"y:k*k+n", "y:(b>l|d=3)&!g<2?k;y:9", "y:9999*9999*l/d", "y:k?", "y:12345"};
     private static final String[] SPRINGS = {"f0;n;p05;i0;n;f1", "n;n;n", "p99;f9", "p05;p11;i0;i1", "p1", "n;"};
     private static final int[] EXTREMES = {Integer.MIN_VALUE, Integer.MAX_VALUE, -1000000, -2, 10, 41, 51, 1000};
