@@ -26,17 +26,17 @@ public final class ModelTest {
         buy 8 20
         give 6 50
         day 10
-        years 4 30 seed
+        years 5 years seed
         undo 7
-        log 12 60 2
-        step 4 3 15 2
-        run 10 3 1
-        perform 5 3
+        log 16 logged 2
+        step 6 spring 6 2
+        run 8 spring 1
+        perform 7 spring
         least 6 farm 1
         every 4 1
         richest 6 9 1
         pairs 6 1
-        seen 4 told 40 yes
+        seen 9 told 40 yes
         weights 8 told 9
         ask 5 told
         ring 4
@@ -48,8 +48,8 @@ public final class ModelTest {
         shares 4 farm 999
         fades 6 farm
         all 14 12
-        image 2
-        back 2
+        image 3
+        back 3
         count 20 14
         """.lines().map(line -> line.split(" ")).toList();
     private static final int WEIGHT = CALLS.stream().mapToInt(row -> Integer.parseInt(row[1])).sum();
@@ -165,6 +165,9 @@ public final class ModelTest {
             case "told": return number(plain.count(1));
             case "tape": return number(plain.count(4) + 1);
             case "open": return openOr(number(9));
+            case "spring": return number(plain.count(3));
+            case "logged": return number(plain.count(13));
+            case "years": return yearsOr(number(31));
             default: return number(Integer.parseInt(kind) + 1);
         }
     }
@@ -182,6 +185,12 @@ public final class ModelTest {
     private int openOr(int place) {
         boolean any = plain.all(9) > 0 && random.nextBoolean();
         return any ? Integer.numberOfTrailingZeros(plain.all(9)) : place;
+    }
+
+    /** Late in the village's days, often just as many as are left, or one more. */
+    private int yearsOr(int n) {
+        int left = 999 - plain.count(6);
+        return left <= 30 && random.nextBoolean() ? left + random.nextInt(2) : n;
     }
 
     private void call(String name, Object... arguments) {

@@ -1,6 +1,9 @@
+import java.util.ArrayList;
+import java.util.Collections;
+import java.util.List;
 import java.util.Random;
 
-/** Texts by draws: most are whole, with blanks here and there; some have a sign put in, left out or changed. */
+/** Texts by draws: most are whole, with blanks here and there; some have a sign too many, too few or another one. */
 final class RandomTexts {
     private static final String[] SIGNS = {"sfw;lcygavk0123456789 x", "y:;kgnbld0123456789[]()!&|=<>+-*/? x",
         "fpin;0123456789 x"};
@@ -19,43 +22,54 @@ final class RandomTexts {
 
     private String village() {
         int farms = 1 + random.nextInt(random.nextInt(20) == 0 ? 8 : 6);
-        int told = farms;
         int wrongs = farms == 1 ? 0 : random.nextInt(random.nextInt(20) == 0 ? 12 : 10);
-        boolean ruled = random.nextBoolean();
-        StringBuilder text = new StringBuilder();
         int longest = random.nextBoolean() ? 9 : 40;
-        while (farms > 0 || wrongs > 0 || ruled) {
-            int kind = random.nextInt(3);
-            text.append(text.length() > 0 && text.charAt(text.length() - 1) != ';' ? ";" : "").append(blank());
-            if (kind == 0 && ruled) {
-                items(text.append('s'), "lc", random.nextInt(100), random.nextInt(100));
-                ruled = false;
-            } else if (kind == 1 && farms > 0) {
-                items(text.append('f'), "yg", random.nextInt(longest) + 1, random.nextInt(10));
-                farms--;
-            } else if (kind == 2 && wrongs > 0) {
-                int who = random.nextInt(told);
-                int whom = (who + 1 + random.nextInt(random.nextInt(60) == 0 ? told : told - 1)) % told;
-                items(text.append('w'), "avk", who, whom, random.nextInt(9) + 1);
-                wrongs--;
+        List<String> clauses = new ArrayList<>();
+        for (int i = 0; i < farms; i++) {
+            clauses.add(clause('f', "yg", random.nextInt(longest) + 1, random.nextInt(10)));
+        }
+        for (int i = 0; i < wrongs; i++) {
+            int who = random.nextInt(farms);
+            int whom = (who + 1 + random.nextInt(random.nextInt(60) == 0 ? farms : farms - 1)) % farms;
+            clauses.add(clause('w', "avk", who, whom, random.nextInt(9) + 1));
+        }
+        if (random.nextBoolean()) {
+            clauses.add(clause('s', "lc", random.nextInt(100), random.nextInt(100)));
+        }
+        Collections.shuffle(clauses, random);
+        return String.join(";", clauses);
+    }
+
+    /** Items may be left out, but not so that a wrong would be another one's. */
+    private String clause(char kind, String letters, int... values) {
+        StringBuilder text = new StringBuilder().append(blank()).append(kind).append(blank());
+        boolean usual = kind != 'w' || values[0] == 0 && values[1] == 1;
+        for (int i = 0; i < values.length; i++) {
+            char letter = letters.charAt(i);
+            boolean may = usual || letter == 'k';
+            if (!may || random.nextInt(3) > 0) {
+                int value = random.nextInt(200) == 0 ? beyond(letter) : values[i];
+                text.append(letter).append(blank());
+                text.append(value < 10 && random.nextInt(6) == 0 ? "0" : "").append(value).append(blank());
             }
         }
         return text.toString();
     }
 
-    private void items(StringBuilder text, String letters, int... values) {
-        for (int i = 0; i < values.length; i++) {
-            boolean left = letters.equals("avk") ? i == 2 || values[0] == 0 && values[1] == 1 : random.nextInt(4) == 0;
-            if (!left || random.nextInt(3) > 0) {
-                text.append(blank()).append(letters.charAt(i)).append(blank());
-                text.append(values[i] < 10 && random.nextInt(6) == 0 ? "0" : "").append(values[i]).append(blank());
-            }
+    /** A number that is not within the bounds of a letter. */
+    private int beyond(char letter) {
+        switch (letter) {
+            case 'l': case 'c': return 100;
+            case 'y': return random.nextBoolean() ? 0 : 41;
+            case 'k': return random.nextBoolean() ? 0 : 10;
+            case 'g': return 10;
+            default: return 6;
         }
     }
 
     private String law() {
         StringBuilder text = new StringBuilder();
-        for (int i = random.nextInt(4); i >= 0; i--) {
+        for (int i = random.nextInt(random.nextInt(10) == 0 ? 30 : 4); i >= 0; i--) {
             text.append("y").append(blank()).append(':').append(blank());
             if (random.nextInt(3) > 0) {
                 condition(text, 0);
